@@ -705,7 +705,7 @@ public final class NextBench {
             int seat = start;
             int walked = 0;
             for (int i = 1; i < seats; i++) {
-                boolean armed = seat < seats - 1 && (moreArms >> seat & 1) != 0;
+                boolean armed = (moreArms >> seat & 1) != 0;
                 if (armed || scene.steps[seat] == CUT) {
                     return;
                 }

@@ -145,8 +145,8 @@ public final class PromiseTest {
     x.see(0);
     dueAll(7, "bear", all(x.bear(2), x.told(4), x.bear(0), x.bear(5), x.bear(-1), x.told(4), x.bear(4), x.told(4),
         x.bear(1), x.told(1)), 2, 1, OUTSIDE, OUTSIDE, OUTSIDE, 1, 2, 0, 4, 1);
-    dueAll(7, "what hangs on it", all(x.whole(3), x.bear(2), x.whole(3), x.bear(4), x.whole(3), x.game(0, 1, 0)),
-        4, 1, 2, 2, 1, 1);
+    dueAll(7, "what hangs on it", all(x.whole(3), x.game(0, 0, 0), x.mean(0), x.bear(2), x.whole(3), x.game(0, 0, 0),
+        x.mean(0), x.bear(4), x.whole(3), x.game(0, 1, 0), x.mean(0)), 4, 4, 4, 1, 2, 2, 2, 2, 1, 1, 1);
   }
 
   private static void farness() {
@@ -185,7 +185,8 @@ public final class PromiseTest {
         x.takes(0, 5)), 4, 4, 0, 6, 0, 0);
     dueAll(10, "one sits", all(x.takes(8, 0), x.takes(8, 1), x.takes(8, 2), x.takes(8, 3), x.takes(8, 4),
         x.takes(8, 5)), 6, 6, 0, 6, 1, 0);
-    dueAll(10, "seat 0", all(x.takes(1, 0), x.takes(1, 1), x.takes(1, 4), x.takes(1, 5)), 6, 6, 2, 6);
+    dueAll(10, "seat 0", all(x.takes(1, 0), x.takes(1, 1), x.takes(1, 4), x.takes(1, 5),
+        x.takes(4, 5)), 6, 6, 2, 6, 6);
     NextBench gaps = of("oo-oo|o-o");
     dueAll(10, "ends", all(gaps.takes(0, 5), gaps.takes(16, 5), gaps.takes(48, 5), gaps.takes(0, 1)), 4, 5, 0, 0);
     dueAll(10, "none", all(x.takes(0b1010101, 0), x.takes(0b0100101, 3)), NONE, NONE);
@@ -247,6 +248,8 @@ public final class PromiseTest {
     NextBench x = of("ooooooo");
     dueAll(17, "seven", all(x.game(1, 1, 0), x.game(1, 0, 1), x.game(0b1010101, 0, 0), x.game(0b1010101, 1, 1)),
         3, 4, 4, NONE);
+    dueAll(17, "seven from nobody on", all(x.game(0, 0, 0), x.game(0, 0, 1), x.game(0, 1, 0), x.game(0, 1, 1)),
+        3, 0, 3, 1);
     dueAll(17, "refused", all(x.game(128, 0, 0), x.game(0, 2, 0), x.game(0, -1, 0), x.game(0, 0, 2), x.game(0, 0, -1),
         x.game(3, 0, 0), x.game(3, 2, 0), x.game(-1, 0, 0)),
         OUTSIDE, OUTSIDE, OUTSIDE, OUTSIDE, OUTSIDE, STATE, OUTSIDE, OUTSIDE);
@@ -289,6 +292,11 @@ public final class PromiseTest {
     dueAll(22, "nothing has changed", all(x.far(0, 5), x.may(1)), 5, 0b111100);
     NextBench armed = of("o|ooo");
     dueAll(22, "an arm is there", all(armed.arms(2, 1, 0), armed.arms(2, 1, 1), armed.arms(2, 3, 0)), 0, 3, 6);
+    // 0|1|23 and 012|3 are alike; the latter has fewer
+    NextBench sunny = of("oooo");
+    sunny.worth(2, 5);
+    dueAll(22, "the fewest ahead of the least", all(sunny.arms(0, 0, 1), sunny.arms(0, 2, 0), sunny.arms(0, 2, 1)),
+        2, 4, 3);
     dueAll(22, "one seat", all(of("o").arms(0, 3, 0), of("o").arms(0, 3, 1)), 0, 1);
     dueAll(22, "a ring stays closed", all(of("oo@").arms(0, 3, 0), of("oo@").arms(0, 3, 1), of("oo").arms(0, 3, 0)),
         0, 1, 1);
@@ -369,7 +377,7 @@ public final class PromiseTest {
   }
 
   private static void images() {
-    NextBench x = of("o-o@");
+    NextBench x = of("o--o-@");
     x.worth(1, 8);
     x.bear(1);
     x.come(1);
@@ -384,7 +392,7 @@ public final class PromiseTest {
     dueAll(33, "changes", all(x.room(), x.bear(2), x.worth(1, 2), x.come(0), x.begin(), x.whole(1), x.say('o')),
         4, 1, 0, 2, 0, 5, 1);
     dueAll(34, "restore", all(x.restore(0), x.told(0), x.told(1), x.told(2), x.told(3), x.told(4), x.told(10), x.told(11),
-        x.far(0, 1), x.whole(1), x.sits(0), x.see(0), x.image(1)), 1, 2, 1, 1, 1, 1, 0, 8, 1, 3, 1, 2, 1);
+        x.far(0, 1), x.whole(1), x.sits(0), x.see(0), x.image(1)), 1, 2, 1, 1, 1, 1, 0, 8, 2, 3, 1, 2, 1);
     dueAll(34, "the image is as it was", all(x.worth(1, 0), x.forget(), x.restore(0), x.told(11), x.told(3), x.see(0)),
         8, 1, 1, 8, 1, 2);
     dueAll(34, "the other one", all(x.bear(4), x.restore(1), x.told(1), x.see(0), x.game(0, 0, 0)), 1, 1, 1, NO, 2);
