@@ -7,7 +7,7 @@ import java.util.Random;
  */
 public final class ModelTest {
   private static final int RUNS = 260;
-  private static final int CALLS = 475;
+  private static final int LONGEST_TELLING = 33;
   private static final int[] WILD = {-1, -2, -7, 12, 13, 30, 31, 99, 100, 101, 200, 201, 4095, 4096, 1 << 30,
       Integer.MIN_VALUE, Integer.MAX_VALUE, Integer.MIN_VALUE + 1, 64, 6, 7, 4, 5};
 
@@ -37,29 +37,26 @@ public final class ModelTest {
 
   private static void run(int run, int[] answered) {
     Random random = new Random(1000 + run);
-    NextBench bench = new NextBench();
-    Model model = new Model();
-    int calls = 0;
+    Both both = new Both(x -> { });
     int largest = run % 20 == 0 ? 12 : 8;
-    while (calls < CALLS) {
-      if (calls == 0 && run % 5 != 0 || random.nextInt(70) == 0) {
-        String text = text(random, largest);
-        calls += text.length() + 2;
-        compare(run, "wipe", new int[0], bench, model, answered);
-        for (char sign : text.toCharArray()) {
-          compare(run, "say", new int[] {sign}, bench, model, answered);
-        }
-        compare(run, "room", new int[0], bench, model, answered);
+    if (run % 5 != 0) {
+      both.tell(text(random, largest));
+    }
+    while (both.callsLeft() > 0) {
+      if (random.nextInt(70) == 0 && both.callsLeft() >= LONGEST_TELLING) {
+        both.tell(text(random, largest));
         continue;
       }
       int kind = pick(random);
-      int[] arguments = arguments(Calls.KINDS[kind], random, model);
+      int[] arguments = arguments(Calls.KINDS[kind], random, both.model());
       if (random.nextInt(25) == 0 && arguments.length > 0) {
         arguments[random.nextInt(arguments.length)] = WILD[random.nextInt(WILD.length)];
       }
-      compare(run, Calls.KINDS[kind], arguments, bench, model, answered);
-      calls++;
+      if (both.ask(Calls.KINDS[kind], arguments) >= 0) {
+        answered[kind]++;
+      }
     }
+    wrong += both.wrong();
   }
 
   private static int pick(Random random) {
@@ -159,20 +156,6 @@ public final class ModelTest {
       case "restore": return new int[] {random.nextInt(2)};
       case "told": return new int[] {random.nextInt(23)};
       default: return new int[0];
-    }
-  }
-
-  private static void compare(int run, String call, int[] a, NextBench bench, Model model,
-      int[] answered) {
-    long got = Calls.ask(bench, call, a);
-    long want = model.ask(call, a);
-    int kind = Arrays.asList(Calls.KINDS).indexOf(call);
-    if (want >= 0) {
-      answered[kind]++;
-    }
-    if (got != want && wrong++ < 20) {
-      System.out.println("run " + run + ": " + call + Arrays.toString(a) + " answered " + got + ", the model " + want
-          + " (room " + model.text + ", bear " + model.bear + ")");
     }
   }
 }

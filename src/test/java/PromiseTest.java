@@ -76,9 +76,11 @@ public final class PromiseTest implements Refusals {
     dueAll(4, "none", all(Rooms.faultOf("o"), Rooms.faultOf("o@"), Rooms.faultOf("-|o|-@"), Rooms.faultOf("oooooooooooo@"),
         Rooms.faultOf("oooooooooooo--||")), NONE, NONE, NONE, NONE, NONE);
     dueAll(4, "a thirteenth", all(Rooms.faultOf("ooooooooooooo"), Rooms.faultOf("o-o-o-o-o-o-o-o-o-o-o-o-o")), 12, 24);
-    dueAll(4, "rings", all(Rooms.faultOf("@"), Rooms.faultOf("--@o"), Rooms.faultOf("o@@"), Rooms.faultOf("o@-"), Rooms.faultOf("oo@x")),
+    dueAll(4, "rings", all(Rooms.faultOf("@"), Rooms.faultOf("--@o"), Rooms.faultOf("o@@"),
+        Rooms.faultOf("o@-"), Rooms.faultOf("oo@x")),
         0, 2, 2, 2, 3);
-    dueAll(4, "other signs", all(Rooms.faultOf("oOo"), Rooms.faultOf("x"), Rooms.faultOf("oo0"), Rooms.faultOf("o-!~"), Rooms.faultOf("_o")),
+    dueAll(4, "other signs", all(Rooms.faultOf("oOo"), Rooms.faultOf("x"), Rooms.faultOf("oo0"),
+        Rooms.faultOf("o-!~"), Rooms.faultOf("_o")),
         1, 0, 2, 2, 0);
   }
 
@@ -227,8 +229,10 @@ public final class PromiseTest implements Refusals {
   }
 
   private static void pairs() {
-    dueAll(18, "ring of six", all(Rooms.of("oooooo@").pairs(0), Rooms.of("oooooo@").pairs(1), Rooms.of("oooooo@", 1).pairs(1)), 2, 2, 3);
-    dueAll(18, "gaps", all(Rooms.of("o-o-o").pairs(0), Rooms.of("oo-oo").pairs(0), Rooms.of("oo-oo", 3).pairs(0), Rooms.of("oo|oo", 4).pairs(1)),
+    dueAll(18, "ring of six", all(Rooms.of("oooooo@").pairs(0), Rooms.of("oooooo@").pairs(1),
+        Rooms.of("oooooo@", 1).pairs(1)), 2, 2, 3);
+    dueAll(18, "gaps", all(Rooms.of("o-o-o").pairs(0), Rooms.of("oo-oo").pairs(0),
+        Rooms.of("oo-oo", 3).pairs(0), Rooms.of("oo|oo", 4).pairs(1)),
         0, 2, 1, 2);
     // by turns 0 and 1 sit first, and leave 2 and 3, which are not 1 apart; best are 0 and 3 (through the ring), 1 and 2
     dueAll(18, "by turns is not best", all(Rooms.of("ooo-o@", 1).pairs(0), Rooms.of("ooo-o@", 1).pairs(1)), 1, 2);
@@ -269,7 +273,8 @@ public final class PromiseTest implements Refusals {
     dueAll(22, "the fewest ahead of the least", all(sunny.arms(0, 0, 1), sunny.arms(0, 2, 0), sunny.arms(0, 2, 1)),
         2, 4, 3);
     dueAll(22, "one seat", all(Rooms.of("o").arms(0, 3, 0), Rooms.of("o").arms(0, 3, 1)), 0, 1);
-    dueAll(22, "a ring stays closed", all(Rooms.of("oo@").arms(0, 3, 0), Rooms.of("oo@").arms(0, 3, 1), Rooms.of("oo").arms(0, 3, 0)),
+    dueAll(22, "a ring stays closed", all(Rooms.of("oo@").arms(0, 3, 0), Rooms.of("oo@").arms(0, 3, 1),
+        Rooms.of("oo").arms(0, 3, 0)),
         0, 1, 1);
     dueAll(22, "refused", all(x.arms(6, 0, 0), x.arms(-1, 0, 0), x.arms(0, 4, 0), x.arms(0, -1, 0), x.arms(0, 0, 2),
         x.arms(0, 0, -1)), OUTSIDE, OUTSIDE, OUTSIDE, OUTSIDE, OUTSIDE, OUTSIDE);

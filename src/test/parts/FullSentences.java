@@ -31,6 +31,9 @@ final class FullSentences implements Refusals {
     t.got(Rooms.of("oo").whole(0), Rooms.of("oo").whole(1), Rooms.of("oooo").whole(0), Rooms.of("oooo").whole(1))
         .due(1, 1, 0b0101, 0b0101);
     t.got(Rooms.of("ooo").whole(0), Rooms.of("ooo").whole(1)).due(0b010, 0b101);
+    // the last SEAT of this ring lies between the other two, so the fewest are not the least as bits of all
+    NextBench between = Rooms.of("o|oo@");
+    t.got(between.whole(0), between.whole(1), between.whole(2), between.whole(3)).due(0b100, 0b011, 1, 2);
     t.sentence(12, "LEAST (what = 0), MOST (1): the set; how many (2, 3).");
     t.got(ring.whole(2), ring.whole(3), Rooms.of("ooo").whole(2), Rooms.of("ooo").whole(3)).due(4, 6, 1, 2);
     for (int what = 0; what < 4; what++) {
@@ -84,6 +87,8 @@ final class FullSentences implements Refusals {
     oddsAre(t, Rooms.of("ooooo"), 2, 8, 15);
     oddsAre(t, Rooms.of("ooooo"), 3, 7, 15);
     oddsAre(t, Rooms.of("oooo", 3), 1, 1, 2);
+    oddsAre(t, Rooms.of("ooooo@"), 2, 1, 1);
+    oddsAre(t, Rooms.of("oooooo@"), 3, 2, 3);
     t.sentence(15, "ODDS of n (0 to 12).");
     oddsAre(t, Rooms.of("ooo"), 0, 0, 1);
     oddsAre(t, Rooms.of("ooo"), 3, 0, 1);
@@ -162,6 +167,11 @@ final class FullSentences implements Refusals {
     t.got(five.game(1, 1, 1), five.game(1, 0, 1), five.game(4, 1, 1), five.game(2, 0, 1), five.game(16, 1, 1)).due(3, 2, 0, 3,
         1);
     t.got(Rooms.of("oo").game(0, 0, 1), Rooms.of("oo").game(0, 1, 1), Rooms.of(TWELVE, 1).game(2047, 1, 1)).due(0, 0, 11);
+    // from another ROOM, another BEAR on it is another GAME
+    NextBench changed = Rooms.of("ooo");
+    t.got(changed.game(0, 0, 0), changed.bear(1), changed.game(0, 0, 0), changed.image(0), changed.bear(4), changed.game(0, 0, 0))
+        .due(2, 2, 3, 1, 1, 1);
+    t.got(changed.restore(0), changed.game(0, 0, 0), changed.say('o'), changed.room(), changed.game(0, 0, 0)).due(1, 3, 1, 1, 1);
     t.sentence(17, "GAME: how many (what = 0), the SEAT (1; NONE: it is WHOLE), the KIND one's turn (turn = 0), the WICKED"
         + " one's (1).");
     for (int turn = 0; turn < 2; turn++) {
@@ -215,6 +225,12 @@ final class FullSentences implements Refusals {
         Rooms.of("o|o|o").pairs(1)).due(0, 0, 1, 1, 0);
     t.got(Rooms.of(TWELVE + "@", 1).pairs(1), Rooms.of(TWELVE + "@", 2).pairs(1), Rooms.of(TWELVE + "@", 3).pairs(1),
         Rooms.of(TWELVE + "@", 4).pairs(1), Rooms.of(TWELVE, 1).pairs(1)).due(6, 4, 3, 2, 6);
+    t.got(Rooms.of("ooooo@").pairs(1), Rooms.of("oooooo@").pairs(1), Rooms.of("ooooo@", 1).pairs(1)).due(1, 2, 2);
+    // asked again, and in another ROOM with another BEAR
+    NextBench again = Rooms.of(TWELVE + "@", 4);
+    t.got(again.pairs(1), again.pairs(0), again.pairs(1), again.bear(1), again.pairs(1), again.pairs(0)).due(2, 2, 2, 4, 6, 6);
+    Rooms.tell(again, "ooo|oo");
+    t.got(again.room(), again.pairs(0), again.pairs(1), again.pairs(0)).due(5, 2, 2, 2);
   }
 
   private static void late(Sentences t) {
@@ -226,6 +242,9 @@ final class FullSentences implements Refusals {
     for (int habit = 0; habit < 6; habit++) {
       t.got(five.late(habit, 4), five.late(habit, 3), five.late(habit, 2), five.late(habit, 1)).due(2, 2, 3, 5);
     }
+    NextBench ring = Rooms.of(TWELVE + "@", 4);
+    t.got(ring.late(0, 4), ring.late(0, 3), ring.late(0, 2), ring.late(0, 1)).due(2, 4, 4, 12);
+    t.got(ring.late(2, 4), ring.late(2, 3), ring.late(2, 2), ring.late(2, 1)).due(3, 3, 6, 12);
     t.sentence(19, "LATE: how many sit by a HABIT at BEAR v in the end.");
     t.got(new NextBench().late(0, 2), new NextBench().late(0, 1), Rooms.of(TWELVE, 1).late(5, 1), Rooms.of(TWELVE, 4).late(5, 1),
         Rooms.of(APART, 4).late(3, 4)).due(1, 1, 12, 12, 12);

@@ -85,6 +85,8 @@ final class RowSentences implements Refusals {
       t.got(Rooms.of("ooo").arms(habit, 2, 0), Rooms.of("ooo").arms(habit, 2, 1), Rooms.of(LAST_TWO).arms(habit, 0, 1),
           Rooms.of(LAST_TWO).arms(habit, 1, 0), Rooms.of(LAST_TWO).arms(habit, 1, 1)).due(3, 3, 11, 1 << 10, 12);
       t.got(new NextBench().arms(habit, 3, 1), new NextBench().arms(habit, 0, 0)).due(1, 0);
+      // the first and the last of three come in by each habit, so one ARM wins nothing, though the MEAN would be more
+      t.got(Rooms.of("ooo").arms(habit, 1, 0), Rooms.of("ooo").arms(habit, 1, 1), Rooms.of("ooo").rests(1)).due(0, 2, 1);
     }
   }
 
@@ -112,6 +114,10 @@ final class RowSentences implements Refusals {
     t.got(three.rests(0), three.rests(1), three.rests(2), three.rests(3)).due(0, 1, 3, 3);
     // 0|123 has 1 and 5/3, 01|23 has 1 and 1
     t.got(Rooms.of("oooo").rests(1), Rooms.of("oooo").rests(3), Rooms.of("oo|oo").rests(1)).due(1, 7, 1);
+    // an ARM wins 1/3 among the three, and 1 between the two; two among the three win 4/3, as one each do
+    t.got(Rooms.of("ooo-oo").rests(1), Rooms.of("ooo-oo").rests(2), Rooms.of("ooo-oo").rests(3)).due(8, 3, 11);
+    // 1, 2 and 3 are three, and so are 4, 5 and 0: an ARM wins as much here as there
+    t.got(Rooms.of("o-ooo-oo@").rests(1), Rooms.of("oooo@").rests(1), Rooms.of("oooo@").rests(2)).due(2, 0, 3);
     t.sentence(23, "ARMS by ANY: the PLACES, as bits.");
     t.got(new NextBench().rests(3), Rooms.of("oo").rests(0), Rooms.of("oo").rests(1), Rooms.of("oo@").rests(3),
         Rooms.of("ooo@").rests(3), Rooms.of(LAST_TWO).rests(1), Rooms.of(LAST_TWO).rests(3)).due(0, 0, 1, 0, 3, 1 << 10,
@@ -182,6 +188,17 @@ final class RowSentences implements Refusals {
     awayIs(t, one, new int[] {1, 0, 3}, 1, 1);
     t.sentence(25, "The mean of how many were turned away.");
     awayIs(t, Rooms.of("ooooo"), new int[] {0b10010, 2, 3}, 15, 16);
+    // with 0 there only the sunny 3 leaves nothing for the next one
+    NextBench sunny = Rooms.worth("ooooo", 2, 0, 0, 0, 9);
+    for (int habit = 0; habit < 6; habit++) {
+      awayIs(t, sunny, new int[] {1, habit, 2}, habit == 1 ? 1 : 0, habit == 1 ? 4 : 1);
+      oddsAre(t, sunny, new int[] {1, habit, 2}, 3, habit == 1 ? 0 : 1, habit == 1 ? 1 : 4);
+    }
+    // here the first one takes the sunny 1, which leaves nothing, by FAR too
+    NextBench between = Rooms.worth("ooo", 2, 0, 9, 0);
+    for (int habit = 0; habit < 6; habit++) {
+      awayIs(t, between, new int[] {0, habit, 2}, habit < 2 ? 1 : 0, habit < 2 ? 4 : 1);
+    }
     awayIs(t, Rooms.of(TWELVE, 1), new int[] {4095, 5, 1}, 1, 2);
     awayIs(t, Rooms.of(TWELVE, 1), new int[] {0, 5, 3}, 0, 1);
     awayIs(t, Rooms.of(TWELVE, 1), new int[] {2047, 5, 1}, 0, 1);

@@ -154,6 +154,10 @@ final class SeatSentences implements Refusals {
       t.got(one.fill(0, habit), one.fill(1, habit), all.fill(0, habit), all.fill(4095, habit), apart.fill(0, habit)).due(1, 1,
           4095, 4095, 4095);
     }
+    // in a ring the last one is beside the first one
+    NextBench ring = Rooms.of(TWELVE + "@");
+    t.got(ring.fill(0, 0), ring.fill(0, 2), ring.fill(0, 3), ring.fill(1, 3), ring.fill(1 << 11, 2)).due(0b001001001001,
+        0b010101010101, 0b101010101010, 0b010101010101, 0b101010101010);
     t.sentence(11, "By a HABIT from a FILLED set on all come till it is WHOLE.");
     t.got(seven.fill(4, 0), seven.fill(2, 2), seven.fill(0b0100000, 3), seven.fill(0b1010101, 4), seven.fill(0b0100101, 0))
         .due(0b1010101, 0b0101010, 0b0101010, 0b1010101, 0b0100101);

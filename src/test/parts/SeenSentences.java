@@ -56,6 +56,8 @@ final class SeenSentences implements Refusals {
     for (int comer = 0; comer < 12; comer++) {
       t.got(all.sits(comer)).due(11 - comer);
     }
+    NextBench ring = Rooms.of(TWELVE + "@");
+    t.got(ring.come(2), ring.come(3), ring.come(4), ring.sits(0), ring.sits(1), ring.sits(2)).due(0, 1, 2, 0, 10, 2);
     NextBench one = new NextBench();
     for (int habit = 0; habit < 6; habit++) {
       t.got(one.come(habit), one.sits(0), habit == 0 ? NONE : one.sits(habit)).due(habit, 0, NONE);
@@ -121,6 +123,8 @@ final class SeenSentences implements Refusals {
     NextBench x = Rooms.of("ooooo");
     t.got(x.fits(), x.begin(), x.fits(), x.see(0), x.fits(), x.see(4), x.fits()).due(63, 0, 63, 1, 0b110111, 2, 0b100011);
     t.got(x.begin(), x.fits(), x.see(4), x.fits()).due(1, 0b100011, 1, 0);
+    NextBench ring = Rooms.of(TWELVE + "@");
+    t.got(ring.begin(), ring.see(11), ring.see(0), ring.see(9), ring.fits(), ring.see(1), ring.fits()).due(0, 1, NO, 2, 8, 3, 0);
     t.sentence(31, "HABITS that FIT, as bits.");
     // one by one: FAR, SUN, the least, the greatest, NEAR, END
     t.got(fitting("ooooooo", new int[] {0, 0, 9, 0, 8}, 2, 6), fitting("ooooo", new int[] {0, 5, 0, 0, 9}, 4, 1),
@@ -213,27 +217,67 @@ final class SeenSentences implements Refusals {
     // what comes behind does not go into the IMAGE
     t.got(x.begin(), x.see(0), x.come(2), x.worth(2, 0), x.bear(1), x.restore(0)).due(2, 1, 2, 3, 3, 1);
     isFull(t, x);
+    // other rows that come in between, longer and shorter ones, leave the kept rows as they were
+    t.got(x.bear(1), x.begin(), x.see(1), x.see(2), x.see(0), x.see(3), x.begin(), x.begin(), x.restore(0)).due(3, 0, 1, 2, 3, 4,
+        1, 2, 1);
+    isFull(t, x);
     // a row of the IMAGE goes on where it was
     t.got(x.bear(1), x.restore(0), x.begin(), x.see(2), x.see(0), x.see(3)).due(3, 1, 2, 1, 2, NO);
     // the pad is none of these
     t.got(x.say('o'), x.say('o'), x.restore(0), x.told(2), x.fault(), x.room(), x.told(0), x.restore(0)).due(1, 2, 1, 2, NONE, 2,
         2, 1);
     isFull(t, x);
-    NextBench most = Rooms.of(TWELVE, 1);
+    restoreAll(t);
+  }
+
+  /** As much as an IMAGE can hold; then the same places are written over with other numbers. */
+  private static void restoreAll(Sentences t) {
+    NextBench x = Rooms.of(TWELVE, 1);
     for (int i = 0; i < 12; i++) {
-      most.come(i % 6);
-      most.worth(i, 9);
+      x.come(i % 6);
+      x.worth(i, 9);
     }
+    seeUpwards(x, 7, 10);
+    t.got(x.game(0, 0, 0), x.whole(3), x.mean(0), x.image(1)).due(12, 12, 12, 1);
+    t.got(x.forget(), x.bear(4), x.worth(11, 0)).due(12, 1, 9);
+    for (int i = 0; i < 12; i++) {
+      x.come(2);
+    }
+    t.got(x.bear(2), x.game(0, 0, 0), x.whole(2), x.restore(1)).due(4, 6, 4, 1);
+    t.got(x.told(0), x.told(1), x.told(3), x.told(4), x.told(21), x.come(0), x.begin(), x.see(11)).due(12, 1, 12, 8, 9, FULL,
+        FULL, NO);
+    t.got(x.judge(2), x.judge(3), x.judge(5), x.sits(11), x.game(0, 0, 0), x.whole(3), x.mean(0)).due(710, 0, 1, 7, 12, 12, 12);
     for (int row = 0; row < 8; row++) {
-      most.begin();
-      for (int seat = 0; seat < 12; seat++) {
-        most.see((seat + row) % 12);
+      for (int place = 0; place < 12; place++) {
+        restoreSeen(t, row, place);
       }
     }
-    t.got(most.image(1), most.forget(), most.bear(4), most.worth(11, 0), most.restore(1)).due(1, 12, 1, 9, 1);
-    t.got(most.told(0), most.told(1), most.told(3), most.told(4), most.told(21), most.come(0), most.begin(), most.see(11))
-        .due(12, 1, 12, 8, 9, FULL, FULL, NO);
-    t.got(most.judge(2), most.judge(3), most.judge(5), most.sits(11)).due(100, 0, 1, 7);
+  }
+
+  /** In 8 rows of 12 one SEAT is not the least number (but for the last of a row, which has no choice). */
+  private static void restoreSeen(Sentences t, int row, int place) {
+    NextBench x = Rooms.of(TWELVE, 1);
+    seeUpwards(x, row, place);
+    long due = place < 11 ? 100 * row + place : NONE;
+    t.got(x.judge(2), x.image(0), x.bear(2), x.bear(1)).due(due, 1, 1, 2);
+    for (int other = 0; other < 8; other++) {
+      x.begin();
+      for (int seat = 11; seat >= 0; seat--) {
+        x.see(seat);
+      }
+    }
+    t.got(x.judge(3), x.restore(0), x.judge(2), x.told(4)).due(NONE, 1, due, 8);
+  }
+
+  /** Eight rows of all SEATS from 0 on; in one row one SEAT and the next one are the other way round. */
+  private static void seeUpwards(NextBench x, int turnedRow, int turnedPlace) {
+    for (int row = 0; row < 8; row++) {
+      x.begin();
+      for (int place = 0; place < 12; place++) {
+        boolean turned = row == turnedRow && turnedPlace < 11;
+        x.see(turned && place == turnedPlace ? place + 1 : turned && place == turnedPlace + 1 ? place - 1 : place);
+      }
+    }
   }
 
   private static void restoreRefused(Sentences t) {
