@@ -5,6 +5,8 @@ public final class SentenceTest {
 
   public static void main(String[] args) throws Exception {
     Sentences sentences = new Sentences();
+    WholeSentences.test(sentences);
+    FaceSentences.test(sentences);
     RoomSentences.test(sentences);
     SeatSentences.test(sentences);
     FullSentences.test(sentences);

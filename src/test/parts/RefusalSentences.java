@@ -19,6 +19,7 @@ final class RefusalSentences implements Refusals {
     refusedChangeNothing(t);
     questionsChangeNothing(t);
     manyCalls(t);
+    laterCalls(t);
   }
 
   private static void constants(Sentences t) {
@@ -199,6 +200,20 @@ final class RefusalSentences implements Refusals {
     got.addAll(Arrays.asList((long) x.may(1), (long) x.whole(0), (long) x.whole(1), x.mean(0), x.mean(1), (long) x.pairs(0),
         (long) x.pairs(1), (long) x.game(0, 0, 1), (long) x.game(1, 1, 0), (long) x.arms(0, 1, 0), (long) x.rests(1),
         x.minutes(1, 0, 3, 1, 0), x.away(1, 0, 3, 0), (long) x.rows(9, 3), (long) x.longer(9)));
+  }
+
+  /** They are free in what they answer, but not free to throw. */
+  private static void laterCalls(Sentences t) {
+    t.sentence(Sentences.TERMS, "what later calls answer is free.");
+    for (Objects which : Objects.values()) {
+      NextBench x = which.make();
+      for (String call : Calls.KINDS) {
+        for (int[] arguments : allArguments(call)) {
+          Calls.ask(x, call, arguments);
+        }
+      }
+      t.holds(true, "all of them ended");
+    }
   }
 
   private static void manyCalls(Sentences t) {

@@ -12,7 +12,7 @@ import java.util.regex.Pattern;
  * quotes is told in the end, so that no sentence is passed over.
  */
 final class Sentences {
-  /** What the promises rest on goes as number 0. */
+  /** All that stands ahead of the promises goes as number 0. */
   static final int TERMS = 0, PROMISES = 35;
 
   private static final Path DOCUMENT = Path.of("../shared/DOC.md");
@@ -31,8 +31,10 @@ final class Sentences {
       return;
     }
     String document = Files.readString(DOCUMENT);
-    keep(TERMS, between(document, "An object is used", "; what later calls") + " "
-        + between(document, "Calls that are refused", "Ahead of the calls") + " "
+    // of what is not promised only this can be tested: that there is no more
+    keep(TERMS, between(document, "The next bench but one", "## The public face") + " "
+        + between(document, "public final class", "## Terms") + " "
+        + between(document, "Calls that are refused", "## Promise 1:") + " "
         + between(document, "Nothing is promised beyond", ", and nothing about"));
     for (int number = 1; number <= PROMISES; number++) {
       String text = between(document, "## Promise " + number + ":", "\n## ");
@@ -74,6 +76,14 @@ final class Sentences {
       quoted.get(number)[at] = true;
     }
     return from >= 0;
+  }
+
+  /** What no call tells, but a look at the class. */
+  void holds(boolean right, String what) {
+    answers++;
+    if (!right) {
+      fault(what);
+    }
   }
 
   /** The answers of some calls, made in this order. */
